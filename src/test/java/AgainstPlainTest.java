@@ -23,6 +23,9 @@ public final class AgainstPlainTest {
         for (int seed = 0; seed < runs; seed++) {
             new AgainstPlainTest(first + seed).go();
         }
+        for (int seed = 0; seed < 4 * runs; seed++) {
+            new AgainstPlainTest(first + seed).searchWithBacks();
+        }
         everySmallOrder();
         DUE.close("AgainstPlainTest");
     }
@@ -35,6 +38,9 @@ public final class AgainstPlainTest {
     }
 
     private void go() {
+        for (int slot = random.nextInt(4); slot < 3; slot++) {
+            tellText(slot, text());
+        }
         while (calls < CALLS - 20) {
             int choice = random.nextInt(100);
             if (choice < 6) {
@@ -218,6 +224,45 @@ public final class AgainstPlainTest {
             }
         }
         return spoiled.toString();
+    }
+
+    /** Orders of two levels, whose searches go back often: tries to the number, and the rows. */
+    private void searchWithBacks() {
+        int low = 3 + random.nextInt(2);
+        int high = 3 + random.nextInt(2);
+        int[] named = shuffled(low + high);
+        StringBuilder text = new StringBuilder("order " + (low + high));
+        String sign = ":";
+        for (int a = 0; a < low; a++) {
+            for (int b = 0; b < high; b++) {
+                if (random.nextInt(3) > 0) {
+                    text.append(sign).append(named[a]).append("<").append(named[low + b]);
+                    sign = ",";
+                }
+            }
+        }
+        tellText(0, text + ";");
+        int[] again = shuffled(low + high);
+        StringBuilder renamed = new StringBuilder();
+        for (char digit : text.toString().toCharArray()) {
+            boolean thing = renamed.length() > 7 && digit >= '0' && digit <= '7';
+            renamed.append(thing ? (char) ('0' + again[digit - '0']) : digit);
+        }
+        tellText(1, renamed + ";");
+        ask("alike", 0, 1);
+        ask("puts", 1, named[0], named[low]);
+        ask("cuts", 1, again[named[0]], again[named[low]]);
+        ask("alike", 0, 1);
+        ask("selves", 0);
+        for (int t = 2; t <= 4; t++) {
+            int took = ask("realizes", 0, t, 3000);
+            ask("realizes", 0, t, Math.max(1, took - 1));
+            ask("tell", 0);
+            for (int i = text.length(); ask("octet", i) >= 0; i++) {
+                continue;
+            }
+        }
+        ask("dimension", 0, 3000);
     }
 
     /** All orders of up to four things: what does not depend on rows. */

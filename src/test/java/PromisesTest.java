@@ -202,6 +202,8 @@ public final class PromisesTest {
         isFault("order 2;row 011;", 4, 12);
         isFault("order 2;row 02;", 4, 12);
         isFault("order 2;row 11;", 4, 12);
+        isFault("order 3;row 010;", 4, 12);
+        isFault("order 8;row 01234568;", 4, 12);
         isFault("order 2;row 0;", 4, 12);
         isFault("order 2;row ;", 1, 12);
         isFault("order 2;row a;", 1, 12);
@@ -624,7 +626,8 @@ public final class PromisesTest {
         due("29 chain", g.realizes(0, 1, 1), 0);
         dueText("29 chain's line", rows(g), "row 76543210;");
         g = Due.with(FOUR_FOUR);
-        due("29 three are not enough", g.realizes(0, 3, 100000), -1);
+        due("29 three are not enough", g.realizes(0, 3, 9), -1);
+        due("29 and eight tries do not tell", g.realizes(0, 3, 8), -3);
         due("29 four are", g.realizes(0, 4, 100000), 10);
         due("29 all turned", g.rowsAre(0, 1), 1);
         g = Due.with(FREE_8);
