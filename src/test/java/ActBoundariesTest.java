@@ -26,6 +26,8 @@ public final class ActBoundariesTest {
         alikeOrNot();
         selvesLeastAndMost();
         dropsOfNothing();
+        actsOfOneSlotAlone();
+        callsLeaveNothingBehind();
         actsThatAreNone();
         actsThatAre();
         callsThatAreNoActs();
@@ -161,6 +163,11 @@ public final class ActBoundariesTest {
         g.undo();
         due("37 between: what followed stays", g.without(0, 1), 3);
         dueText("37 between told", g, 0, "order 3:0<1,1<2;row 012;row 210;");
+        g = Due.with("order 4:3<0,2<0,0<1;");
+        due("37 those below thing 0", g.without(0, 2), 3);
+        due("37 one less", g.of(0, 0, 0), 4);
+        due("37 above it as before", g.of(0, 0, 1), 2);
+        due("37 and from there", g.of(0, 2, 1), 3);
         g = Due.with(CHAIN_8 + "row 01234567;");
         for (int left = 7; left >= 1; left--) {
             due("37 eight to one", g.without(0, left % 2 == 0 ? 0 : left), left);
@@ -305,6 +312,57 @@ public final class ActBoundariesTest {
         due("41 its rows are gone", g.look(0, 8), 0);
     }
 
+    private static OrderGauge three() {
+        OrderGauge g = Due.with("order 4:3<1,2<1;row 3210;");
+        Due.tell(g, 1, "order 3:2<0;row 210;row 012;");
+        Due.tell(g, 2, "order 2:0<1;row 01;row 01;row 10;");
+        return g;
+    }
+
+    private static void act(String name, int a, int b, int answer, String want) {
+        OrderGauge g = three();
+        due(name, Calls.toGauge(g, name, new int[] {0, a, b, 0, 0}), answer);
+        dueText(name + " slot 0", g, 0, want);
+        dueText(name + " slot 1", g, 1, "order 3:2<0;row 210;row 012;");
+        dueText(name + " slot 2", g, 2, "order 2:0<1;row 01;row 01;row 10;");
+        due(name + " is an act", g.count(1), 4);
+        due(name + " undone", g.undo(), 3);
+        dueText(name + " slot 0 as it was", g, 0, "order 4:2<1,3<1;row 3210;");
+    }
+
+    // 29, 32 to 37: an act is of its own slot, whichever slot had the one ahead of it
+    private static void actsOfOneSlotAlone() {
+        act("adds", 0, 0, 2, "order 4:2<1,3<1;row 3210;row 0231;");
+        act("takes", 0, 0, 0, "order 4:2<1,3<1;");
+        act("puts", 0, 3, 2, "order 4:0<3,2<1,3<1;row 3210;");
+        act("cuts", 2, 1, 1, "order 4:3<1;row 3210;");
+        act("flip", 0, 0, 2, "order 4:1<2,1<3;row 0123;");
+        act("without", 0, 0, 3, "order 3:1<0,2<0;row 210;");
+        act("realizes", 2, 100, 8, "order 4:2<1,3<1;row 3210;row 0231;");
+    }
+
+    // What a call worked out for one order is not taken for another.
+    private static void callsLeaveNothingBehind() {
+        OrderGauge both = Due.with("order 5:0<1<2,3<4;row 01234;");
+        Due.tell(both, 1, "order 8:7<6<5,4<3,2<1;row 76543210;");
+        OrderGauge one = Due.with("order 5:0<1<2,3<4;row 01234;");
+        OrderGauge other = Due.with("order 8:7<6<5,4<3,2<1;row 76543210;");
+        for (String name : Calls.NAMES) {
+            boolean asks = !name.matches("feed|end|told|fault|count|drops|undo|octet|alike|joins")
+                    && !name.matches("adds|takes|puts|cuts|flip|without");
+            for (int k = 0; asks && k < 32; k++) {
+                int[] v = {0, k / 4 % 8, k % 4, 0, 0};
+                int[] second = {1, k / 4 % 8, k % 4, 0, 0};
+                if (name.equals("realizes") || name.equals("dimension")) {
+                    v[1] = second[1] = 2;
+                    v[2] = second[2] = 1;
+                }
+                due(name + " of the one", Calls.toGauge(both, name, v), Calls.toGauge(one, name, v));
+                due(name + " of the other", Calls.toGauge(both, name, second), Calls.toGauge(other, name, v));
+            }
+        }
+    }
+
     // III: "told(), realizes(), flip(), joins() by which a SLOT becomes otherwise (ORDER, ROWS)"
     private static void actsThatAreNone() {
         OrderGauge g = Due.with("order 2;row 01;");
@@ -320,6 +378,9 @@ public final class ActBoundariesTest {
         due("III another N", g.count(1), 5);
         Due.tell(g, 1, "order 3:0<1;");
         due("III another slot", g.count(1), 6);
+        g = Due.with("order 2;");
+        Due.tell(g, 0, "order 2:1<0;");
+        due("III thing 0 alone is above another", g.count(1), 2);
         g = Due.with("order 2;row 10;row 01;");
         g.realizes(0, 2, 9);
         due("III the same rows", g.count(1), 1);

@@ -50,12 +50,19 @@ public final class MeasureBoundariesTest {
         DUE.due(what, got, want);
     }
 
+    // How many and what an order is does not hang on how its things are named.
     private static void look(int what, String text, int want) {
-        due("7 look " + what + " of " + text, Due.with(text).look(0, what), want);
+        for (int[] names : Due.names(text.charAt(6) - '0')) {
+            String named = what == 8 ? text : Due.renamed(text, names);
+            due("7 look " + what + " of " + named, Due.with(named).look(0, what), want);
+        }
     }
 
     private static void is(int what, String text, int want) {
-        due("9 is " + what + " of " + text, Due.with(text).is(0, what), want);
+        for (int[] names : Due.names(text.charAt(6) - '0')) {
+            String named = Due.renamed(text, names);
+            due("9 is " + what + " of " + named, Due.with(named).is(0, what), want);
+        }
     }
 
     private static void chain(String text, int... want) {
@@ -76,7 +83,10 @@ public final class MeasureBoundariesTest {
 
     private static void jumper(String text, int most, int jumps, String want) {
         OrderGauge g = Due.with(text);
-        due("22 jumps " + most + " of " + text, g.jumps(0, most), jumps);
+        OrderGauge other = Due.with(text);
+        due("22 jumps " + most + " of " + text, other.jumps(0, most), jumps);
+        // The other kind asked ahead must not be kept.
+        g.jumps(0, 1 - most);
         for (int i = 0; i < want.length(); i++) {
             due("23 jumper " + most + " of " + text, g.jumper(0, most, i), want.charAt(i) - '0');
         }
@@ -109,6 +119,9 @@ public final class MeasureBoundariesTest {
         due("8 is covered", g.of(0, 0, 4), 0b0010);
         due("8 nothing is covered by the least", g.of(0, 0, 3), 0);
         due("8 nothing covers the last", g.of(0, 3, 4), 0);
+        g = Due.with("order 3:1<0<2;");
+        due("8 thing 0 between, from above", g.of(0, 2, 3), 1);
+        due("8 thing 0 between, from below", g.of(0, 1, 4), 1);
     }
 
     // I: HEIGHT, WIDTH

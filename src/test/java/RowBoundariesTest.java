@@ -30,6 +30,7 @@ public final class RowBoundariesTest {
         realizesPlaces();
         realizesTries();
         realizesGoesBack();
+        realizesWhateverTheNames();
         realizesEveryPlaceIsATry();
         realizesAChain();
         realizesLongest();
@@ -155,6 +156,7 @@ public final class RowBoundariesTest {
         due("27 chain without rows", Due.with(CHAIN_8).rowsAre(0, 1), 0);
         due("27 free without rows", Due.with(FREE_8).rowsAre(0, 1), 0);
         due("27 one row of two free", Due.with("order 2;row 01;").rowsAre(0, 1), 0);
+        due("27 the other row of two free", Due.with("order 2;row 10;").rowsAre(0, 1), 0);
         due("27 the same twice", Due.with("order 2;row 01;row 01;").rowsAre(0, 1), 0);
         due("27 one two not turned", Due.with("order 3;row 012;row 201;").rowsAre(0, 1), 0);
         due("27 a row that is no line", Due.with("order 3:0<1;row 012;row 201;row 102;").rowsAre(0, 1), 0);
@@ -249,6 +251,33 @@ public final class RowBoundariesTest {
         g.realizes(0, 4, 7);
         dueRows("29 four places", g, "row 34201;row 24031;row 23140;row 23140;");
         search(GOES_BACK, 1, 3, -1);
+        // Longer ways back and forth; so many tries by the plain search of support/PlainGauge.java, too.
+        search("order 6:0<1,0<2,1<5,3<5,4<2;", 2, 30, 30);
+        search("order 6:1<3,2<3,2<5,4<0,4<5;", 2, 27, 27);
+        search("order 6:2<0,2<1,3<0,3<4,4<1,5<0;", 2, 26, 26);
+        search("order 6:0<1,2<0,2<3,4<1,4<3,5<0;", 2, 22, 22);
+    }
+
+    // 29: rows found are a realizer; two places are enough for these orders, whatever their things are named
+    private static void realizesWhateverTheNames() {
+        String[] sixes = {"order 6:0<1,0<2,1<5,3<5,4<2;", "order 6:1<3,2<3,2<5,4<0,4<5;",
+            "order 6:2<0,2<1,3<0,3<4,4<1,5<0;", "order 6:0<1,2<0,2<3,4<1,4<3,5<0;"};
+        for (String text : sixes) {
+            for (int[] names : Due.names(6)) {
+                OrderGauge g = Due.with(Due.renamed(text, names));
+                DUE.holds("29 found of " + text, g.realizes(0, 2, 100000) > 0);
+                due("29 a realizer of " + text, g.rowsAre(0, 1), 1);
+            }
+        }
+        for (int[] names : Due.names(5)) {
+            OrderGauge g = Due.with(Due.renamed(GOES_BACK, names));
+            DUE.holds("29 found", g.realizes(0, 2, 100000) >= 4);
+            due("29 a realizer", g.rowsAre(0, 1), 1);
+            due("29 of two", g.look(0, 8), 2);
+            due("25 four critical twos", g.critical(0, -1), 4);
+            due("26 all turned", g.reversed(0, 0) + g.reversed(0, 1) >= 4 ? 1 : 0, 1);
+            due("29 one is not enough", g.realizes(0, 1, 100000), -1);
+        }
     }
 
     // II: "(not behind a place that has none yet)", "Each place looked at for a two is a try"
@@ -339,6 +368,11 @@ public final class RowBoundariesTest {
         due("30 crown, too long", Due.with(CROWN).dimension(0, 5), -3);
         due("30 four and four, just enough", Due.with(FOUR_FOUR).dimension(0, 10), 4);
         due("30 four and four, too long", Due.with(FOUR_FOUR).dimension(0, 9), -3);
+        // 3, 10 and 7 tries: with 7 to 9 three places would be found, but two are not told from none.
+        due("30 goes back, just enough", Due.with(GOES_BACK).dimension(0, 10), 2);
+        for (int tries = 1; tries < 10; tries++) {
+            due("30 goes back, too long", Due.with(GOES_BACK).dimension(0, tries), -3);
+        }
         for (int tries : new int[] {0, 100001, -1, LOW, HIGH, LOW + 1}) {
             due("30 tries " + tries, Due.with(CHAIN_8).dimension(0, tries), -2);
             due("30 tries ahead of -3", Due.with(CROWN).dimension(0, tries), -2);

@@ -1,4 +1,6 @@
 import java.nio.charset.StandardCharsets;
+import java.util.ArrayList;
+import java.util.List;
 
 /** Counts answers that are not as due, and feeds texts to an object. */
 final class Due {
@@ -61,6 +63,44 @@ final class Due {
             throw new IllegalStateException("not told: " + text);
         }
         return gauge;
+    }
+
+    /** A text without rows, its things named anew. */
+    static String renamed(String text, int[] names) {
+        StringBuilder other = new StringBuilder(text.substring(0, 7));
+        for (char sign : text.substring(7).toCharArray()) {
+            other.append(sign >= '0' && sign <= '7' ? (char) ('0' + names[sign - '0']) : sign);
+        }
+        return other.toString();
+    }
+
+    /** All ways to name up to five things; of more things those that go round, forward and backward. */
+    static List<int[]> names(int things) {
+        List<int[]> ways = new ArrayList<>();
+        if (things <= 5) {
+            nameOn(new int[things], 0, 0, ways);
+            return ways;
+        }
+        for (int way = 0; way < 2 * things; way++) {
+            int[] names = new int[things];
+            for (int thing = 0; thing < things; thing++) {
+                names[thing] = way < things ? (thing + way) % things : (2 * things - 1 - thing + way) % things;
+            }
+            ways.add(names);
+        }
+        return ways;
+    }
+
+    private static void nameOn(int[] names, int thing, int taken, List<int[]> ways) {
+        if (thing == names.length) {
+            ways.add(names.clone());
+        }
+        for (int name = 0; thing < names.length && name < names.length; name++) {
+            if ((taken >> name & 1) == 0) {
+                names[thing] = name;
+                nameOn(names, thing + 1, taken | 1 << name, ways);
+            }
+        }
     }
 
     static String out(OrderGauge gauge) {
