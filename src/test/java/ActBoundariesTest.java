@@ -381,6 +381,11 @@ public final class ActBoundariesTest {
         g = Due.with("order 2;");
         Due.tell(g, 0, "order 2:1<0;");
         due("III thing 0 alone is above another", g.count(1), 2);
+        g = Due.with("order 2;row 01;row 10;");
+        g.takes(0, 1);
+        Due.tell(g, 1, "order 2;row 01;row 01;");
+        Due.tell(g, 0, "order 2;row 01;");
+        due("III told as it was since a row went", g.count(1), 3);
         g = Due.with("order 2;row 10;row 01;");
         g.realizes(0, 2, 9);
         due("III the same rows", g.count(1), 1);

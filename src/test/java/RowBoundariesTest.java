@@ -176,6 +176,8 @@ public final class RowBoundariesTest {
     private static void rowsAreUnlike() {
         due("27 none", Due.with("order 2;").rowsAre(0, 2), 1);
         due("27 one", Due.with("order 2;row 01;").rowsAre(0, 2), 1);
+        due("27 one of one thing", Due.with("order 1;row 0;").rowsAre(0, 2), 1);
+        due("27 two of one thing", Due.with("order 1;row 0;row 0;").rowsAre(0, 2), 0);
         due("27 two", Due.with("order 2;row 01;row 10;").rowsAre(0, 2), 1);
         due("27 two like ones", Due.with("order 2;row 01;row 01;").rowsAre(0, 2), 0);
         String five = "order 3;row 012;row 021;row 102;row 120;row 201;";
@@ -183,8 +185,12 @@ public final class RowBoundariesTest {
         due("27 the last like the first", Due.with(five + "row 012;").rowsAre(0, 2), 0);
         due("27 the last like the one ahead of it", Due.with(five + "row 201;").rowsAre(0, 2), 0);
         due("27 rows that are no lines", Due.with("order 2:0<1;row 10;row 10;").rowsAre(0, 2), 0);
+        // A row that went is not there.
+        OrderGauge g = Due.with("order 2;row 01;row 01;");
+        g.takes(0, 1);
+        due("27 one of two like ones", g.rowsAre(0, 2), 1);
         // Rows become alike as a thing goes.
-        OrderGauge g = Due.with("order 3;row 012;row 021;");
+        g = Due.with("order 3;row 012;row 021;");
         g.without(0, 2);
         due("27 alike without a thing", g.rowsAre(0, 2), 0);
     }
