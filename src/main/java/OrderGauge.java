@@ -563,7 +563,7 @@ public final class OrderGauge {
         private int size;
 
         Bytes(int most) {
-            held = new int[most];
+            held = new int[Math.max(most, 0)];
         }
 
         int size() {
@@ -796,7 +796,7 @@ public final class OrderGauge {
         }
 
         boolean under(int a, int b) {
-            return has(a) && (belowOf(b) >> a & 1) == 1;
+            return has(a) && has(b) && (below[b] >> a & 1) == 1;
         }
 
         int coveredBy(int thing) {
@@ -1671,16 +1671,11 @@ public final class OrderGauge {
 
         private void measure(Order order, boolean most) {
             for (int set = order.all(); set > 0; set--) {
-                if (order.isIdeal(set)) {
-                    measureFrom(order, set, most);
-                }
-            }
-        }
-
-        private void measureFrom(Order order, int set, boolean most) {
-            for (int last = 0; last < order.size(); last++) {
-                if ((set >> last & 1) == 1) {
-                    best[set * MOST_THINGS + last] = worth(order, set, last, pick(order, set, last, most));
+                boolean ideal = order.isIdeal(set);
+                for (int last = 0; ideal && last < order.size(); last++) {
+                    if ((set >> last & 1) == 1) {
+                        best[set * MOST_THINGS + last] = worth(order, set, last, pick(order, set, last, most));
+                    }
                 }
             }
         }
